@@ -746,7 +746,6 @@ public final class KeyShop {
             rows[cylinder] = chambers;
             firsts[cylinder] = NONE;
             seconds[cylinder] = NONE;
-            // a number that was undone may have left its HEIGHTS here
             for (int chamber = 0; chamber < chambers; chamber++) {
                 setHeights(cylinder, chamber, 0);
             }
@@ -1114,8 +1113,7 @@ public final class KeyShop {
 
         void passOver(Keys shopKeys, int key, int opensNow) {
             lost = key;
-            shallOpen[key] = 0;
-            shallNever[key] = opensNow & (1 << doors) - 1;
+            shallNever[key] = opensNow;
             for (int i = 0; i < cutsEach; i++) {
                 cuts[key * CUTS_TO_CUT + i] = shopKeys.cutAt(key, i);
             }

@@ -12,6 +12,7 @@ public final class AsksTest {
         countMeetsNothing();
         carries();
         carriesTheLeast();
+        carriesAllFourteen();
         carriesOfFirstKeysAlone();
         carryRefusals();
         closedDoors();
@@ -168,6 +169,20 @@ public final class AsksTest {
             new int[] {5}, new int[] {6}, new int[] {7}, new int[] {8}, new int[] {9});
         DUE.same("all are wanted", z.carry(1023), 1023);
         DUE.same("but few for few", z.carry(513), 513);
+    }
+
+    private static void carriesAllFourteen() {
+        KeyShop x = new KeyShop();
+        x.blanks(14);
+        for (int i = 0; i < 14; i++) {
+            x.key(2, i);
+            x.cylinder(0, 2);
+            x.height(i, 0, i % 10, true);
+            x.height(i, 1, i / 10, true);
+            x.door();
+            x.fit(i, i);
+        }
+        DUE.same("each DOOR has a KEY of its own", x.carry((1 << 14) - 1), (1 << 14) - 1);
     }
 
     private static void carriesOfFirstKeysAlone() {

@@ -7,6 +7,7 @@ public final class ToldTest {
         undoOnce();
         whatUndoLeaves();
         undoneNumbersComeAnew();
+        undoKeepsTheRest();
         findings();
         traces();
         counts();
@@ -146,6 +147,22 @@ public final class ToldTest {
         DUE.same("inside", y.inside(1, 2), KeyShop.NONE);
         DUE.same("height", y.heightAt(2, 2, 0), 7);
         DUE.same("wish", y.wish(0, 1, 0), 1);
+    }
+
+    private static void undoKeepsTheRest() {
+        KeyShop x = shop();
+        x.cylinder(0, 1);
+        x.twin(2, 0);
+        x.cabinet(4, 1);
+        x.height(2, 0, 4, true);
+        x.height(0, 0, 6, true);
+        x.undo();
+        DUE.same("both halves are there", x.turn(0, 3), 1);
+        DUE.same("the first one BARS", x.turn(1, 3), 0);
+        DUE.same("at", x.at(), 0);
+        DUE.same("the cabinet takes a DOUBLE", x.put(1, 0, 3), KeyShop.NONE);
+        DUE.same("and no CORE", x.put(1, 0, 0), -14);
+        DUE.same("the other one takes it", x.put(0, 0, 0), KeyShop.NONE);
     }
 
     private static void findings() {
