@@ -13,6 +13,7 @@ public final class AskBoundsTest {
         countRefusals();
         carryFewest();
         carryLeast();
+        asksBehindOthers();
         carryFirstKeys();
         carryBits();
         closed();
@@ -145,6 +146,20 @@ public final class AskBoundsTest {
             .asked("carry(3)", 3).asked("carry(7)", 3);
         promise(36, "the least: 0110 is less than 1001", shop(4, "13", "02", "23")).asked("carry(7)", 6);
         promise(36, "a KEY that OPENS EMPTY ones", shop(1, "", "", "5")).asked("carry(7)", 1);
+    }
+
+    /** What was found for other KEYS, DOORS and CYLINDERS counts no more. */
+    private static void asksBehindOthers() {
+        String shop = shop(3, "01", "12", "2") + "carry(7) = 5; closed(7); endangered(2); ";
+        promise(36, "behind another carry()", shop).asked("carry(3)", 2).asked("carry(6)", 4).asked("carry(1)", 1);
+        promise(36, "behind another carry(): a DOOR has no CYLINDER", shop, "fit(0, NONE); fit(1, NONE)")
+            .asked("carry(7)", 4).asked("closed(7)", 3).asked("endangered(2)", 4);
+        promise(36, "behind another carry(): a KEY is undone",
+            "blanks(1); cylinder(0, 1); door(); fit(0, 0); key(1, 1); carry(1) = 1; undo(); person()")
+            .asked("carry(1)", 0).asked("closed(1)", 1);
+        promise(35, "behind another count()", "cylinder(1, 3); door(); fit(0, 0); height(0, 1, 4, true)",
+            "count(0, 18, 9); count(0, 2, 0); height(0, 1, 4, false)")
+            .asked("count(0, 2, 9)", 100).asked("count(0, 3, 0)", 10);
     }
 
     private static void carryFirstKeys() {

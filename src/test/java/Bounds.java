@@ -65,7 +65,9 @@ final class Bounds {
 
     private Bounds leaves(String call, long answer) {
         latest = call;
-        same(call, new Run(shop).ask(call), answer);
+        Run run = new Run(shop);
+        same(call, run.ask(call), answer);
+        same(call + " once more", run.ask(call), answer);
         sameLook("", lookBehind(shop), call, answer);
         undoBehind(call, answer);
         findingsBehind(call, answer);

@@ -14,6 +14,7 @@ public final class TurningBoundsTest {
         secondHalf();
         halfIsMissing();
         out();
+        shorterRow();
         turnRefusals();
         opens();
         opensRefusals();
@@ -138,6 +139,16 @@ public final class TurningBoundsTest {
         promise(16, "a CORE that is OUT, of no CHAMBERS", KEYS + "cylinder(2, 0); takeCore(0)")
             .refused("turn(2, 0)", NOTHING);
         promise(16, "a CORE that is back", shop, "putCore(0)").asked("turn(0, 0)", 0).then("at()", 0);
+    }
+
+    /** CORE 1 had HEIGHTS behind the row of CORE 0 that it has now. */
+    private static void shorterRow() {
+        String shop = KEYS + "cylinder(2, 2); cylinder(2, 5); door(); fit(0, 1); cabinet(2, 1); put(0, 0, 1); "
+            + Run.times(5, "height(1, #, 5, true)") + "takeCore(1); takeCore(0); putCore(1)";
+        promise(16, "its CHAMBERS are gone over: those of the row that came in alone", shop)
+            .asked("turn(2, 1)", 1).then("at()", NONE).asked("turn(0, 1)", 1).asked("opens(1, 0)", 1)
+            .asked("turnAll(0, 2)", 1).asked("weight(1)", 15).asked("count(0, 0, 9)", 1)
+            .refused("heightAt(1, 2, 0)", PLACE).refused("heightAt(1, 0, 0)", NOTHING);
     }
 
     private static void turnRefusals() {

@@ -25,6 +25,7 @@ public final class WorkBoundsTest {
         firstKeysAndDoorsAlone();
         lastTrial();
         nothingStands();
+        searchesBehindOthers();
         anewSizes();
         anewStates();
         anewDoorByDoor();
@@ -262,6 +263,8 @@ public final class WorkBoundsTest {
         promise(32, "each NEVER: of two DOORS", shop(1, 2, 1, 1), "height(0, 0, 0, true); height(1, 0, 1, true); "
             + "wish(0, 0, 2); wish(0, 1, 2)")
             .taken("work(1, 2, 1, 9)", 1).then("cut(0, 0)", 2).taken("work(1, 1, 1, 9)", 1).then("cut(0, 0)", 1);
+        promise(32, "a CHAMBER of the DOOR BARS: not one of the next DOOR", shop(2, 2, 1, 5),
+            "height(1, 0, 9, true); wish(0, 0, 2)").asked("work(1, 2, 5, 0)", 0).then("trials()", 410);
         promise(32, "(a BLIND always does)", shop(1, 1, 3, 2), "wish(0, 0, 2)")
             .taken("work(1, 1, 2, 9)", 1).then("trials()", 2);
         promise(32, "each NEVER: of the sixth KEY and the sixth DOOR", shop(6, 6, 1, 1), "height(5, 0, 5, true); "
@@ -350,6 +353,32 @@ public final class WorkBoundsTest {
             .asked("work(1, 1, 5, 9)", UNKNOWN).then("trials()", 4000);
         promise(32, "with none it is 0: of two KEYS", shop(2, 1, 0, 2), "wish(0, 0, 1); wish(1, 0, 1)")
             .asked("work(2, 1, 2, 9)", 0).then("trials()", 10 + 100 + 100 * 10 + 100 * 10);
+    }
+
+    /** What another search found, or read, counts no more. */
+    private static void searchesBehindOthers() {
+        promise(32, "others have what they have: also what an earlier work() cut", shop(1, 1, 1, 1),
+            "wish(0, 0, 1); work(1, 1, 1, 9); wish(0, 0, 0)")
+            .taken("work(1, 1, 1, 9)", 1).then("heightAt(0, 0, 0)", 0).then("heightAt(0, 0, 1)", PLACE);
+        promise(32, "a BLIND always does: one that was there no more", shop(1, 1, 3, 1),
+            "wish(0, 0, 2); work(1, 1, 1, 9); cylinder(1, 1); fit(0, 1)").asked("work(1, 1, 1, 9)", 0);
+        promise(32, "n CUTS: fewer than an earlier work() cut", shop(2, 1, 1, 3), "wish(0, 0, 1); work(2, 1, 3, 9)",
+            "cylinder(0, 1); fit(0, 1)")
+            .taken("work(2, 1, 1, 9)", 1).then("length(0)", 1).then("cut(1, 0)", 1).then("trials()", 3)
+            .then("heightAt(1, 0, 0)", 0);
+        promise(32, "KEYS: fewer than an earlier work() cut", shop(6, 1, 1, 1), "work(6, 1, 1, 9)", "wish(0, 0, 1)")
+            .taken("work(1, 1, 1, 9)", 1).then("trials()", 1).then("heightAt(0, 0, 0)", 0)
+            .then("heightAt(0, 0, 1)", PLACE).then("cut(5, 0)", 5);
+        promise(32, "all KEYS are cut, behind an anew() that passed one over", shop(2, 1, 1, 1),
+            "height(0, 0, 1, true); lose(0); anew(0, 2, 1, 1, 9)", "wish(0, 0, 1)")
+            .taken("work(2, 1, 1, 9)", 1).then("cut(0, 0)", 0).then("cut(1, 0)", 1).then("trials()", 3);
+        promise(33, "it is passed over, behind a work() that cut it", shop(2, 1, 1, 1),
+            "lose(0); wish(0, 0, 1); wish(1, 0, 1); work(2, 1, 1, 9)")
+            .taken("anew(0, 2, 1, 1, 9)", 1).then("cut(0, 0)", 0).then("cut(1, 0)", 1)
+            .then("heightAt(0, 0, 0)", 1).then("heightAt(0, 0, 1)", PLACE).then("trials()", 2);
+        promise(33, "another one is passed over", shop(3, 1, 1, 1),
+            "height(0, 0, 3, true); lose(0); lose(2); anew(0, 3, 1, 1, 9)")
+            .taken("anew(2, 3, 1, 1, 9)", 1).then("cut(0, 0)", 0).then("cut(1, 0)", 2).then("cut(2, 0)", 1);
     }
 
     private static void anewSizes() {
