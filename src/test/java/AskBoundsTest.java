@@ -8,6 +8,7 @@ public final class AskBoundsTest {
         countSizes();
         countSteps();
         countRows();
+        countsBeyondInt();
         countOfHalves();
         countMeetsNothing();
         countRefusals();
@@ -70,6 +71,27 @@ public final class AskBoundsTest {
             .asked("count(0, 0, 0)", 0).asked("count(0, 18, 9)", 0).asked("count(1, 3, 9)", 0);
         promise(35, "no KEY is wanted, nor a BLANK", "cylinder(0, 1); door(); fit(0, 0); height(0, 0, 4, true)")
             .asked("count(0, 1, 9)", 1);
+    }
+
+    /** Counts that are -12, -4 and -2 in the low half of a long: none of them is a FINDING or a refusal. */
+    private static void countsBeyondInt() {
+        promise(35, "long: as PLACE in an int", row("04", 0, "09", 4, "17", 7, "2", 11, "9", 14))
+            .asked("count(0, 18, 6)", 4496830758900L);
+        promise(35, "long: as FULL in an int", row("247", 4, "0", 5, "03", 9, "18", 12))
+            .asked("count(0, 14, 5)", 4294967292L);
+        promise(35, "long: as BAD in an int", row("02", 4, "6", 7, "037", 12, "38", 13))
+            .asked("count(0, 18, 3)", 137438953470L);
+    }
+
+    /** A DOOR whose MASTER has HEIGHTS, a figure each, in the CHAMBERS that are told behind them. */
+    private static String row(Object... heightsAndChambers) {
+        StringBuilder shop = new StringBuilder("cylinder(1, 18); door(); fit(0, 0); ");
+        for (int i = 0; i < heightsAndChambers.length; i += 2) {
+            for (char height : ((String) heightsAndChambers[i]).toCharArray()) {
+                shop.append("height(0, " + heightsAndChambers[i + 1] + ", " + height + ", true); ");
+            }
+        }
+        return shop.toString();
     }
 
     private static void countOfHalves() {

@@ -8,6 +8,7 @@ import java.nio.file.Files;
 import java.nio.file.Path;
 import java.util.Set;
 import java.util.TreeSet;
+import java.util.regex.Matcher;
 import java.util.regex.Pattern;
 
 /** The public face, and the rules of LANGUAGE.md that a look at the class or its text can tell. */
@@ -28,7 +29,10 @@ public final class FaceTest {
         methods();
         membersThatAreNotPublic();
         classesInside();
-        words(Files.readString(Path.of("src/main/java/KeyShop.java")));
+        objectsShareNothing();
+        String source = Files.readString(Path.of("src/main/java/KeyShop.java"));
+        words(source);
+        methodsAreShort(source);
         DUE.end();
     }
 
@@ -39,6 +43,11 @@ public final class FaceTest {
         DUE.same("FULL", KeyShop.FULL, -4);
         DUE.same("UNKNOWN", KeyShop.UNKNOWN, -5);
         DUE.same("public fields", KeyShop.class.getFields().length, 5);
+        for (Field field : KeyShop.class.getFields()) {
+            int modifiers = field.getModifiers();
+            boolean isConstant = Modifier.isStatic(modifiers) && Modifier.isFinal(modifiers);
+            DUE.isTrue(field + " is static final int", isConstant && field.getType() == int.class);
+        }
     }
 
     private static void methods() {
@@ -50,10 +59,13 @@ public final class FaceTest {
         for (Method method : KeyShop.class.getDeclaredMethods()) {
             if (Modifier.isPublic(method.getModifiers())) {
                 there.add(signature(method));
+                DUE.isTrue(method + " is of an object", !Modifier.isStatic(method.getModifiers()));
+                DUE.same(method + ": exceptions", method.getExceptionTypes().length, 0);
             }
         }
         DUE.isTrue("the methods are those of the document: " + there, due.equals(there));
         DUE.same("constructors", KeyShop.class.getConstructors().length, 1);
+        DUE.same("what it is made with", KeyShop.class.getConstructors()[0].getParameterCount(), 0);
         DUE.isTrue("the class is final", Modifier.isFinal(KeyShop.class.getModifiers()));
     }
 
@@ -114,7 +126,7 @@ public final class FaceTest {
     }
 
     private static void words(String source) {
-        String code = source.replaceAll("(?s)/\\*.*?\\*/", "").replaceAll("//.*", "");
+        String code = code(source);
         String[] ruledOut = {"throw", "throws", "try", "catch", "finally", "synchronized", "assert", "package",
             "native", "volatile", "\\w+Exact", "Object", "Thread", "Random", "hashCode"};
         for (String word : ruledOut) {
@@ -128,5 +140,39 @@ public final class FaceTest {
         DUE.isTrue("no lambda", !hasLambda);
         DUE.isTrue("no method reference", !code.contains("::"));
         DUE.isTrue("no anonymous class", !Pattern.compile("new \\w+\\([^)]*\\)\\s*\\{").matcher(code).find());
+    }
+
+    /** Rule 5: calls on one object are not seen in another one, be it older or newer. */
+    private static void objectsShareNothing() {
+        String shop = "blanks(9); key(1, 4); cylinder(2, 1); cabinet(0, 1); door(); fit(0, 0); person(); "
+            + "wish(0, 0, 1); turn(0, 0); work(1, 1, 1, 9); takeCore(0); cut(0, 9) = -12";
+        Run older = new Run("");
+        new Run(shop);
+        Run newer = new Run("");
+        String[] asks = {"at()", "trials()", "finding()", "trace(0)", "undo()", "told(0)", "told(1)", "told(2)",
+            "told(3)", "told(4)", "told(5)", "told(6)", "told(7)", "told(8)", "told(9)"};
+        int[] atFirst = {-1, 0, 0, -1, -3, 0, 0, 0, 0, 0, 0, 0, 0, 0, -1};
+        for (int i = 0; i < asks.length; i++) {
+            DUE.same("of an older object: " + asks[i], older.ask(asks[i]), atFirst[i]);
+            DUE.same("of a newer object: " + asks[i], newer.ask(asks[i]), atFirst[i]);
+        }
+    }
+
+    /** Rule 11: a method ends at the brace that stands as far to the right as its first line. */
+    private static void methodsAreShort(String source) {
+        // no blank may follow the margin, or a method of a class inside would be taken for one of KeyShop
+        String header = "^( {4}| {8})(?! )[\\w\\[\\] ]+ \\w+\\([^)]*\\) \\{$";
+        Matcher method = Pattern.compile("(?ms)" + header + ".*?^\\1\\}$").matcher(source);
+        int methods = 0;
+        while (method.find()) {
+            methods++;
+            String text = method.group();
+            DUE.isTrue(text.lines().findFirst().orElse("") + " is short", text.lines().count() <= 60);
+        }
+        DUE.isTrue("methods were seen: " + methods, methods > 100);
+    }
+
+    private static String code(String source) {
+        return source.replaceAll("(?s)/\\*.*?\\*/", "").replaceAll("//.*", "");
     }
 }

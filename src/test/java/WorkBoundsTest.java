@@ -32,6 +32,7 @@ public final class WorkBoundsTest {
         lostKeepsItsCuts();
         lostShallOpenNone();
         lostShallNever();
+        lostHasNoWishes();
         noOtherHasItsCuts();
         lostAlone();
         lastTrialOfAnew();
@@ -230,6 +231,13 @@ public final class WorkBoundsTest {
                 .taken("work(5, 1, 1, 9)", 1).then("trials()", 15).then("cut(4, 0)", 4)
                 .then("heightAt(0, 0, 4)", PLACE);
         }
+        promise(32, "of all KEYS up to this one: a PLAIN, ahead of a KEY that need not OPEN it", shop(3, 1, 0, 1),
+            "wish(0, 0, 1); wish(1, 0, 1)")
+            .asked("work(3, 1, 1, 9)", 0).then("trials()", 10 + 100);
+        promise(32, "of all KEYS up to this one: a MASTER, ahead of a KEY that need not OPEN it", shop(6, 1, 1, 2),
+            Run.times(5, "wish(#, 0, 1)"))
+            .taken("work(6, 1, 2, 9)", 1).then("trials()", 2 + 3 + 4 + 5 + 11 + 2 + 6).then("cut(4, 0)", 1)
+            .then("cut(5, 0)", 0).then("cut(5, 1)", 4).then("heightAt(0, 1, 3)", 3).then("heightAt(0, 1, 4)", PLACE);
         promise(32, "MOST of a BLIND 0", shop(1, 1, 3, 1), "wish(0, 0, 1)")
             .asked("work(1, 1, 1, 9)", 0).then("trials()", 10);
         promise(32, "for each DOOR that this KEY shall OPEN: the second is a PLAIN", shop(2, 1, 1, 1),
@@ -507,6 +515,21 @@ public final class WorkBoundsTest {
             .taken("anew(0, 2, 2, 1, 9)", 1).then("cut(1, 0)", 2).then("trials()", 3);
         promise(33, "NEVER, for a BLIND", "blanks(2); key(1, 0); key(1, 5); lose(0);", shop(0, 1, 3, 1))
             .taken("anew(0, 2, 1, 1, 9)", 1);
+    }
+
+    /**
+     * KEY 2 may not begin with 0 (NEVER DOOR 1), nor be as the LOST one, (1, 0): so it is (1, 1), and DOOR 0, which
+     * the LOST one would not OPEN now, lets it pass then. The LOST one's own NEVER for DOOR 0 does not keep it out.
+     */
+    private static void lostHasNoWishes() {
+        for (int what = 0; what <= 2; what++) {
+            String shop = "blanks(3); key(2, 1); key(2, 77); key(2, 77); lose(0); " + shop(0, 2, 1, 2)
+                + "height(0, 0, 9, true); height(1, 0, 0, true); wish(1, 0, 1); wish(2, 0, 1); wish(2, 1, 2); "
+                + "wish(0, 0, " + what + ")";
+            promise(33, "NEVER one that it WOULD OPEN now, whatever its WISHES are: " + what, shop)
+                .taken("anew(0, 3, 2, 2, 9)", 1).then("trials()", 2 + 11 + 3).then("cut(2, 0)", 1).then("cut(2, 1)", 1)
+                .then("opens(0, 0)", 1).then("wish(0, 0, 0)", what);
+        }
     }
 
     private static void noOtherHasItsCuts() {
